@@ -58,25 +58,11 @@ public final class MeldLog {
     }
 
     public int write(int t, int key, int value) {
-        int refusal = refuseChange(t, key);
-        if (refusal != FINE) {
-            return refusal;
-        }
-        viewKeys[t] |= 1 << key;
-        viewValues[t * KEYS + key] = value;
-        ownChanges[t] |= 1 << key;
-        return countKeys(ownChanges[t]);
+        return change(t, key, 1, value);
     }
 
     public int erase(int t, int key) {
-        int refusal = refuseChange(t, key);
-        if (refusal != FINE) {
-            return refusal;
-        }
-        viewKeys[t] &= ~(1 << key);
-        viewValues[t * KEYS + key] = 0;
-        ownChanges[t] |= 1 << key;
-        return countKeys(ownChanges[t]);
+        return change(t, key, 0, 0);
     }
 
     public int read(int t, int key) {
@@ -191,6 +177,18 @@ public final class MeldLog {
             return FINE;
         }
         return countKeys(ownChanges[t]) < MOST_CHANGES ? FINE : FULL;
+    }
+
+    /** present is 1 if the key has the value in the view then, 0 if it has none. */
+    private int change(int t, int key, int present, int value) {
+        int refusal = refuseChange(t, key);
+        if (refusal != FINE) {
+            return refusal;
+        }
+        viewKeys[t] = (viewKeys[t] & ~(1 << key)) | (present << key);
+        viewValues[t * KEYS + key] = value;
+        ownChanges[t] |= 1 << key;
+        return countKeys(ownChanges[t]);
     }
 
     private boolean hasReadChangedKey(int t) {

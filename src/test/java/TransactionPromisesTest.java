@@ -368,6 +368,8 @@ public final class TransactionPromisesTest {
         Checks.due("P8 at(4, 2)", x.at(4, 2), 20);
         Checks.due("P8 has(5, 2)", x.has(5, 2), false);
         Checks.due("P8 at(5, 1): the others' writes stay", x.at(5, 1), 12);
+        Checks.due("P8 has(5, 3): the others' writes stay", x.has(5, 3), true);
+        Checks.due("P8 has(6, 2): the others' erasures stay", x.has(6, 2), false);
         Checks.due("P8 at(6, 3): the others' writes stay", x.at(6, 3), 30);
         Checks.due("P8 size(6)", x.size(6), 2);
     }
