@@ -12,13 +12,6 @@ final class Checks {
         }
     }
 
-    static void due(String what, boolean got, boolean want) {
-        if (got != want) {
-            wrong++;
-            System.out.println(what + " answered " + got + ", due is " + want);
-        }
-    }
-
     static void holds(String what, boolean condition) {
         if (!condition) {
             wrong++;

@@ -1,135 +1,298 @@
+import java.util.function.Consumer;
+import java.util.function.Function;
+
 /** Promise 15: the order of refusals, and that a refused call changes nothing. */
 public final class OrderTest {
     public static void main(String[] args) {
         badBeforeClosed();
         badBeforeFull();
-        badBeforeGone();
-        refusedReadsAreNoReads();
-        refusedCallsChangeNothing();
+        closedBeforeFull();
+        closedBeforeConflict();
+        badBeforeGoneInSize();
+        badBeforeGoneInChanged();
+        refusedBeginChangesNothing();
+        refusedWriteChangesNothing();
+        refusedEraseChangesNothing();
+        refusedReadChangesNothing();
+        refusedPeekChangesNothing();
+        refusedCountRangeChangesNothing();
+        refusedCommitChangesNothing();
+        conflictChangesNoMoreThanAnAbort();
+        refusedAbortChangesNothing();
+        refusedQuestionsChangeNothing();
+        answeredQuestionsChangeNothing();
         Checks.finish();
     }
 
+    /** "tested in the order in which they are named": a number out of range, in one that is not open. */
     private static void badBeforeClosed() {
-        MeldLog x = new MeldLog();
-        Checks.due("P15 write(0, 32, 1) closed", x.write(0, 32, 1), MeldLog.BAD);
-        Checks.due("P15 erase(0, -1) closed", x.erase(0, -1), MeldLog.BAD);
-        Checks.due("P15 read(0, 32) closed", x.read(0, 32), MeldLog.BAD);
-        Checks.due("P15 countRange(0, 0, 32) closed", x.countRange(0, 0, 32), MeldLog.BAD);
-        Checks.due("P15 countRange(0, -1, 3) closed", x.countRange(0, -1, 3), MeldLog.BAD);
-        Checks.due("P15 countRange(0, 4, 3) closed", x.countRange(0, 4, 3), MeldLog.BAD);
-        Checks.due("P15 write(4, 32, 1)", x.write(4, 32, 1), MeldLog.BAD);
-        Checks.due("P15 countRange(-1, 4, 3)", x.countRange(-1, 4, 3), MeldLog.BAD);
+        for (int t = 0; t < 4; t++) {
+            Log x = new Log("P15 BAD comes before CLOSED");
+            for (int key : Edges.NO_KEY) {
+                x.write(t, key, 1).is(MeldLog.BAD);
+                x.erase(t, key).is(MeldLog.BAD);
+                x.read(t, key).is(MeldLog.BAD);
+                x.countRange(t, key, 31).is(MeldLog.BAD);
+                x.countRange(t, 0, key).is(MeldLog.BAD);
+                x.countRange(t, key, key).is(MeldLog.BAD);
+            }
+            x.countRange(t, 1, 0).is(MeldLog.BAD);
+            x.countRange(t, 31, 30).is(MeldLog.BAD);
+            x.countRange(t, 31, 0).is(MeldLog.BAD);
+            x.countRange(t, 0, 0).is(MeldLog.CLOSED);
+            x.write(t, 0, 1).is(MeldLog.CLOSED);
+        }
+        Log y = new Log("P15 BAD is BAD for more than one reason");
+        for (int t : Edges.NO_TRANSACTION) {
+            y.write(t, 32, 1).is(MeldLog.BAD);
+            y.erase(t, -1).is(MeldLog.BAD);
+            y.read(t, 32).is(MeldLog.BAD);
+            y.countRange(t, 32, -1).is(MeldLog.BAD);
+            y.countRange(t, 4, 3).is(MeldLog.BAD);
+        }
     }
 
+    /** "write and erase: BAD, CLOSED, FULL": a key out of range, in one that is full. */
     private static void badBeforeFull() {
-        MeldLog x = new MeldLog();
-        x.begin(0);
-        for (int key = 0; key < 6; key++) {
-            x.write(0, key, key);
+        Log x = new Log("P15 BAD comes before FULL");
+        x.beginAll();
+        for (int t = 0; t < 4; t++) {
+            x.writeKeys(t, 0, 6);
         }
-        Checks.due("P15 write(0, 32, 1) full", x.write(0, 32, 1), MeldLog.BAD);
-        Checks.due("P15 erase(0, 32) full", x.erase(0, 32), MeldLog.BAD);
-        Checks.due("P15 write(0, 6, 1) full", x.write(0, 6, 1), MeldLog.FULL);
-        x.commit(0);
-        Checks.due("P15 write(0, 6, 1) was full, is closed", x.write(0, 6, 1), MeldLog.CLOSED);
-        Checks.due("P15 erase(0, 6) was full, is closed", x.erase(0, 6), MeldLog.CLOSED);
+        for (int key : Edges.NO_KEY) {
+            for (int t = 0; t < 4; t++) {
+                x.write(t, key, 1).is(MeldLog.BAD);
+                x.erase(t, key).is(MeldLog.BAD);
+            }
+        }
+        for (int t : Edges.NO_TRANSACTION) {
+            x.write(t, 6, 1).is(MeldLog.BAD);
+            x.erase(t, 6).is(MeldLog.BAD);
+        }
+        x.write(0, 6, 1).is(MeldLog.FULL);
+        x.erase(0, 6).is(MeldLog.FULL);
     }
 
-    private static void badBeforeGone() {
-        MeldLog x = new MeldLog();
-        for (int i = 0; i < 9; i++) {
-            x.begin(0);
-            x.commit(0);
-        }
-        Checks.due("P15 changed(2, 2) gone", x.changed(2, 2), MeldLog.BAD);
-        Checks.due("P15 changed(3, 2) gone", x.changed(3, 2), MeldLog.BAD);
-        Checks.due("P15 changed(9, 2) gone", x.changed(9, 2), MeldLog.BAD);
-        Checks.due("P15 changed(2, 10) gone", x.changed(2, 10), MeldLog.BAD);
-        Checks.due("P15 changed(-1, 2) gone", x.changed(-1, 2), MeldLog.BAD);
-        Checks.due("P15 changed(2, 9) gone", x.changed(2, 9), MeldLog.GONE);
+    /** "write and erase: BAD, CLOSED, FULL": one that was full when it was closed. */
+    private static void closedBeforeFull() {
+        Log x = new Log("P15 CLOSED comes before FULL");
+        x.begin(0);
+        x.writeKeys(0, 0, 6);
+        x.commit(0).is(1);
+        x.write(0, 6, 1).is(MeldLog.CLOSED);
+        x.erase(0, 6).is(MeldLog.CLOSED);
+        x.begin(0);
+        x.writeKeys(0, 0, 6);
+        x.abort(0).is(6);
+        x.write(0, 6, 1).is(MeldLog.CLOSED);
+        x.erase(0, 6).is(MeldLog.CLOSED);
+        x.begin(0);
+        x.writeKeys(0, 0, 6);
+        x.read(0, 9);
+        x.commitWrite(1, 9, 1);
+        x.commit(0).is(MeldLog.CONFLICT);
+        x.write(0, 6, 1).is(MeldLog.CLOSED);
+        x.erase(0, 6).is(MeldLog.CLOSED);
+        x.write(0, 32, 1).is(MeldLog.BAD);
+        x.erase(0, 32).is(MeldLog.BAD);
     }
 
-    private static void refusedReadsAreNoReads() {
-        MeldLog x = new MeldLog();
+    /** commit: "BAD, CLOSED as above", then CONFLICT: one that had read what is changed when it was closed. */
+    private static void closedBeforeConflict() {
+        Log x = new Log("P15 CLOSED comes before CONFLICT");
         x.begin(0);
-        x.read(0, 32);
-        x.read(0, -1);
-        x.countRange(0, 0, 32);
-        x.countRange(0, -1, 31);
-        x.countRange(0, 31, 0);
+        x.read(0, 9);
         x.begin(1);
-        for (int key = 0; key < 6; key++) {
-            x.write(1, key * 6 + (key == 5 ? 1 : 0), 1);
+        x.read(1, 9);
+        x.commitWrite(2, 9, 1);
+        x.abort(0);
+        x.commit(0).is(MeldLog.CLOSED);
+        x.commit(1).is(MeldLog.CONFLICT);
+        x.commit(1).is(MeldLog.CLOSED);
+    }
+
+    /** size: "BAD …; GONE …": a state that is not there is not kept either. */
+    private static void badBeforeGoneInSize() {
+        Log x = new Log("P15 BAD comes before GONE in size");
+        x.commitNothing(0, 9);
+        for (int state : Edges.noState(9)) {
+            x.size(state).is(MeldLog.BAD);
         }
-        Checks.due("P15 commit(1)", x.commit(1), 1);
-        Checks.due("P15 commit(0): refused reads are no reads", x.commit(0), 2);
-
-        x.read(2, 8);
-        x.countRange(2, 0, 31);
-        x.begin(2);
-        x.begin(3);
-        x.write(3, 8, 1);
-        x.commit(3);
-        Checks.due("P15 commit(2): reads before begin are no reads", x.commit(2), 4);
+        x.size(0).is(MeldLog.GONE);
+        x.size(3).is(MeldLog.GONE);
     }
 
-    private static void refuseMany(MeldLog x) {
-        x.begin(-1);
-        x.begin(4);
-        Checks.due("P15 begin(0)", x.begin(0), MeldLog.OPEN);
-        x.write(0, 32, 5);
-        x.write(4, 1, 5);
-        Checks.due("P15 write(1, 1, 5)", x.write(1, 1, 5), MeldLog.CLOSED);
-        Checks.due("P15 write(0, 20, 5)", x.write(0, 20, 5), MeldLog.FULL);
-        x.erase(0, -1);
-        Checks.due("P15 erase(1, 1)", x.erase(1, 1), MeldLog.CLOSED);
-        Checks.due("P15 erase(0, 10)", x.erase(0, 10), MeldLog.FULL);
-        Checks.due("P15 commit(1)", x.commit(1), MeldLog.CLOSED);
-        x.commit(4);
-        x.commit(-1);
-        Checks.due("P15 abort(1)", x.abort(1), MeldLog.CLOSED);
-        x.abort(4);
-        x.abort(-1);
+    /** changed: "BAD …; GONE …" */
+    private static void badBeforeGoneInChanged() {
+        Log x = new Log("P15 BAD comes before GONE in changed");
+        x.commitNothing(0, 9);
+        for (int gone = 0; gone <= 3; gone++) {
+            for (int state : Edges.noState(9)) {
+                x.changed(gone, state).is(MeldLog.BAD);
+                x.changed(state, gone).is(MeldLog.BAD);
+            }
+            for (int s = gone; s <= 9; s++) {
+                x.changed(s, gone).is(MeldLog.BAD);
+            }
+            x.changed(gone, 9).is(MeldLog.GONE);
+        }
     }
 
-    private static void refusedCallsChangeNothing() {
-        MeldLog x = new MeldLog();
-        x.begin(1);
-        x.write(1, 10, 100);
-        x.write(1, 1, 11);
-        x.commit(1);
+    /**
+     * Every kind of transaction: 0 is full, has read, and its base is no longer kept; 1 has read what is changed
+     * since; 2 is closed, but had written and read; 3 is as it was begun. The states 5 to 10 are kept.
+     */
+    private static void lead(Log x) {
+        x.commitWrite(3, 0, 100);
+        x.commitWrite(3, 31, 131);
+        x.commitWrite(3, 10, 110);
         x.begin(0);
-        for (int key = 0; key < 6; key++) {
-            x.write(0, key, 50 + key);
-        }
+        x.write(0, 0, 50);
+        x.write(0, 1, 51);
+        x.erase(0, 31);
+        x.write(0, 3, 53);
+        x.erase(0, 4);
+        x.write(0, 5, 0);
         x.read(0, 15);
+        x.countRange(0, 20, 22);
+        x.commitWrite(2, 1, 11);
+        x.commitNothing(2, 1);
+        x.commitWrite(2, 12, 0);
+        x.commitErase(2, 10);
+        x.commitWrite(2, 13, -1);
+        x.commitWrite(2, 14, 14);
+        x.begin(1);
+        x.write(1, 1, 61);
+        x.erase(1, 12);
+        x.read(1, 2);
+        x.read(1, 31);
+        x.commitWrite(2, 2, 22);
         x.begin(2);
-        x.write(2, 1, 12);
-        x.commit(2);
-        refuseMany(x);
-        Checks.due("P15 latest()", x.latest(), 2);
-        Checks.due("P15 at(2, 1)", x.at(2, 1), 12);
-        Checks.due("P15 size(2)", x.size(2), 2);
-        for (int key = 0; key < 6; key++) {
-            Checks.due("P15 peek(0, " + key + ")", x.peek(0, key), 50 + key);
-        }
-        Checks.due("P15 peek(0, 10)", x.peek(0, 10), 100);
-        Checks.due("P15 peek(0, 20)", x.peek(0, 20), 0);
-        Checks.due("P15 begin(1): still closed", x.begin(1), 2);
-        Checks.due("P15 write(1, 30, 1): nothing written before", x.write(1, 30, 1), 1);
-        Checks.due("P15 commit(1)", x.commit(1), 3);
-        Checks.due("P15 commit(0): the base is the old one, key 15 unchanged", x.commit(0), 4);
-        Checks.due("P15 at(4, 10)", x.at(4, 10), 100);
-        Checks.due("P15 has(4, 20)", x.has(4, 20), false);
-        Checks.due("P15 size(4)", x.size(4), 8);
+        x.write(2, 7, 70);
+        x.countRange(2, 0, 31);
+        x.abort(2);
+        x.begin(3);
+    }
 
-        MeldLog y = new MeldLog();
-        y.begin(0);
-        y.read(0, 3);
-        y.begin(1);
-        y.write(1, 3, 1);
-        y.commit(1);
-        Checks.due("P15 begin(0) refused", y.begin(0), MeldLog.OPEN);
-        Checks.due("P15 commit(0): base and reads are the old ones", y.commit(0), MeldLog.CONFLICT);
+    private static void changesNothing(String sentence, Function<Log, Log.Answer> call, int due) {
+        Consumer<Log> lead = OrderTest::lead;
+        Twins.areAlike("P15 a refused call changes nothing: " + sentence,
+            lead.andThen(x -> call.apply(x).is(due)), lead);
+    }
+
+    private static void refusedBeginChangesNothing() {
+        for (int t : new int[] {-1, 4, Edges.MIN, Edges.MAX}) {
+            changesNothing("begin, BAD", x -> x.begin(t), MeldLog.BAD);
+        }
+        for (int t : new int[] {0, 1, 3}) {
+            changesNothing("begin, OPEN", x -> x.begin(t), MeldLog.OPEN);
+        }
+    }
+
+    private static void refusedWriteChangesNothing() {
+        for (int t : new int[] {-1, 4, Edges.MIN, Edges.MAX}) {
+            changesNothing("write, BAD transaction", x -> x.write(t, 2, 9), MeldLog.BAD);
+        }
+        for (int key : new int[] {-1, 32, Edges.MIN, Edges.MAX}) {
+            changesNothing("write, BAD key", x -> x.write(1, key, 9), MeldLog.BAD);
+        }
+        changesNothing("write, CLOSED", x -> x.write(2, 2, 9), MeldLog.CLOSED);
+        changesNothing("write, CLOSED", x -> x.write(2, 7, 9), MeldLog.CLOSED);
+        changesNothing("write, FULL", x -> x.write(0, 2, 9), MeldLog.FULL);
+        changesNothing("write, FULL", x -> x.write(0, 10, 9), MeldLog.FULL);
+    }
+
+    private static void refusedEraseChangesNothing() {
+        for (int t : new int[] {-1, 4, Edges.MIN, Edges.MAX}) {
+            changesNothing("erase, BAD transaction", x -> x.erase(t, 0), MeldLog.BAD);
+        }
+        for (int key : new int[] {-1, 32, Edges.MIN, Edges.MAX}) {
+            changesNothing("erase, BAD key", x -> x.erase(1, key), MeldLog.BAD);
+        }
+        changesNothing("erase, CLOSED", x -> x.erase(2, 0), MeldLog.CLOSED);
+        changesNothing("erase, CLOSED", x -> x.erase(2, 7), MeldLog.CLOSED);
+        changesNothing("erase, FULL", x -> x.erase(0, 2), MeldLog.FULL);
+        changesNothing("erase, FULL", x -> x.erase(0, 10), MeldLog.FULL);
+    }
+
+    private static void refusedReadChangesNothing() {
+        for (int t : new int[] {-1, 4, Edges.MIN, Edges.MAX}) {
+            changesNothing("read, BAD transaction", x -> x.read(t, 0), MeldLog.BAD);
+        }
+        for (int key : new int[] {-1, 32, Edges.MIN, Edges.MAX}) {
+            changesNothing("read, BAD key", x -> x.read(3, key), MeldLog.BAD);
+        }
+        changesNothing("read, CLOSED", x -> x.read(2, 0), MeldLog.CLOSED);
+    }
+
+    private static void refusedPeekChangesNothing() {
+        for (int number : new int[] {-1, 32, Edges.MIN, Edges.MAX}) {
+            changesNothing("peek, t out of range", x -> x.peek(number, 0), 0);
+            changesNothing("peek, key out of range", x -> x.peek(3, number), 0);
+        }
+        changesNothing("peek, t is not open", x -> x.peek(2, 0), 0);
+    }
+
+    private static void refusedCountRangeChangesNothing() {
+        for (int t : new int[] {-1, 4, Edges.MIN, Edges.MAX}) {
+            changesNothing("countRange, BAD transaction", x -> x.countRange(t, 0, 31), MeldLog.BAD);
+        }
+        for (int key : new int[] {-1, 32, Edges.MIN, Edges.MAX}) {
+            changesNothing("countRange, BAD low", x -> x.countRange(3, key, 31), MeldLog.BAD);
+            changesNothing("countRange, BAD high", x -> x.countRange(3, 0, key), MeldLog.BAD);
+        }
+        changesNothing("countRange, low > high", x -> x.countRange(3, 1, 0), MeldLog.BAD);
+        changesNothing("countRange, low > high", x -> x.countRange(3, 31, 0), MeldLog.BAD);
+        changesNothing("countRange, CLOSED", x -> x.countRange(2, 0, 31), MeldLog.CLOSED);
+    }
+
+    private static void refusedCommitChangesNothing() {
+        for (int t : new int[] {-1, 4, Edges.MIN, Edges.MAX}) {
+            changesNothing("commit, BAD", x -> x.commit(t), MeldLog.BAD);
+        }
+        changesNothing("commit, CLOSED", x -> x.commit(2), MeldLog.CLOSED);
+    }
+
+    /** "no state is made (the transaction is closed all the same)": as if it had been aborted. */
+    private static void conflictChangesNoMoreThanAnAbort() {
+        Consumer<Log> lead = OrderTest::lead;
+        Twins.areAlike("P15 a CONFLICT closes the transaction and changes nothing else",
+            lead.andThen(x -> x.commit(1).is(MeldLog.CONFLICT)), lead.andThen(x -> x.abort(1).is(2)));
+    }
+
+    private static void refusedAbortChangesNothing() {
+        for (int t : new int[] {-1, 4, Edges.MIN, Edges.MAX}) {
+            changesNothing("abort, BAD", x -> x.abort(t), MeldLog.BAD);
+        }
+        changesNothing("abort, CLOSED", x -> x.abort(2), MeldLog.CLOSED);
+    }
+
+    private static void refusedQuestionsChangeNothing() {
+        for (int state : new int[] {-1, 11, Edges.MIN, Edges.MAX}) {
+            changesNothing("has, not there", x -> x.has(state, 0), 0);
+            changesNothing("at, not there", x -> x.at(state, 0), 0);
+            changesNothing("size, BAD", x -> x.size(state), MeldLog.BAD);
+            changesNothing("changed, BAD s", x -> x.changed(state, 10), MeldLog.BAD);
+            changesNothing("changed, BAD t", x -> x.changed(5, state), MeldLog.BAD);
+        }
+        for (int key : new int[] {-1, 32, Edges.MIN, Edges.MAX}) {
+            changesNothing("has, key outside", x -> x.has(10, key), 0);
+            changesNothing("at, key outside", x -> x.at(10, key), 0);
+        }
+        changesNothing("has, not kept", x -> x.has(4, 0), 0);
+        changesNothing("at, not kept", x -> x.at(4, 0), 0);
+        changesNothing("size, GONE", x -> x.size(4), MeldLog.GONE);
+        changesNothing("changed, s >= t", x -> x.changed(10, 10), MeldLog.BAD);
+        changesNothing("changed, GONE", x -> x.changed(4, 10), MeldLog.GONE);
+    }
+
+    /** Nor do those that only ask, where they are answered. */
+    private static void answeredQuestionsChangeNothing() {
+        changesNothing("latest", Log::latest, 10);
+        changesNothing("has", x -> x.has(5, 31), 1);
+        changesNothing("at", x -> x.at(5, 31), 131);
+        changesNothing("size", x -> x.size(10), 7);
+        changesNothing("changed", x -> x.changed(5, 10), 5);
+        changesNothing("peek", x -> x.peek(3, 2), 22);
     }
 }
