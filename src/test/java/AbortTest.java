@@ -3,7 +3,7 @@ public final class AbortTest {
     public static void main(String[] args) {
         closesThatTransactionAlone();
         commitsNothing();
-        outsideIsBad();
+        transactionOutsideIsBad();
         notOpenIsClosed();
         answersTheNumberOfKeys();
         answersEachKeyOnce();
@@ -47,43 +47,14 @@ public final class AbortTest {
         x.has(2, 6).is(false);
     }
 
-    /** "BAD … as above": "t outside 0..3" */
-    private static void outsideIsBad() {
-        Log x = new Log("P9 t outside 0..3 is BAD");
-        for (int t : Edges.NO_TRANSACTION) {
-            x.abort(t).is(MeldLog.BAD);
-        }
-        x.beginAll();
-        for (int t : Edges.NO_TRANSACTION) {
-            x.abort(t).is(MeldLog.BAD);
-        }
-        for (int t = 0; t < 4; t++) {
-            x.abort(t).is(0);
-        }
+    /** "BAD ... as above": "t outside 0..3" */
+    private static void transactionOutsideIsBad() {
+        Refusals.transactionOutsideIsBad("P9", (x, t) -> x.abort(t));
     }
 
-    /** "CLOSED as above": before it is begun and after each of its ends. */
+    /** "CLOSED as above" */
     private static void notOpenIsClosed() {
-        for (int t = 0; t < 4; t++) {
-            Log x = new Log("P9 one that is not open is CLOSED");
-            int other = (t + 1) % 4;
-            x.begin(other);
-            x.abort(t).is(MeldLog.CLOSED);
-            x.begin(t);
-            x.write(t, 3, 1);
-            x.commit(t).is(1);
-            x.abort(t).is(MeldLog.CLOSED);
-            x.begin(t);
-            x.write(t, 3, 1);
-            x.abort(t).is(1);
-            x.abort(t).is(MeldLog.CLOSED);
-            x.begin(t);
-            x.read(t, 1);
-            x.write(other, 1, 1);
-            x.commit(other).is(2);
-            x.commit(t).is(MeldLog.CONFLICT);
-            x.abort(t).is(MeldLog.CLOSED);
-        }
+        Refusals.notOpenIsClosed("P9", (x, t) -> x.abort(t));
     }
 
     /** "Else answers the number of keys that it had written or erased.": from none to six, and no more than six. */

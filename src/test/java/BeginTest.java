@@ -7,7 +7,7 @@ public final class BeginTest {
         baseIsTheLatestState();
         hasWrittenNothing();
         hasReadNothing();
-        outsideIsBad();
+        transactionOutsideIsBad();
         openIsOpen();
         openWhateverWasDoneInIt();
         closedIsNotOpen();
@@ -56,7 +56,7 @@ public final class BeginTest {
         x.commit(0).is(MeldLog.CONFLICT);
     }
 
-    /** "it has written … nothing" */
+    /** "it has written ... nothing" */
     private static void hasWrittenNothing() {
         Log aborted = afterEnd("P2 nothing is written after an abort", x -> x.abort(0).is(6));
         Log inConflict = afterEnd("P2 nothing is written after a conflict", BeginTest::conflict);
@@ -78,7 +78,7 @@ public final class BeginTest {
         }
     }
 
-    /** "it has … read nothing" */
+    /** "it has ... read nothing" */
     private static void hasReadNothing() {
         Log aborted = afterEnd("P2 nothing is read after an abort", x -> x.abort(0).is(6));
         Log inConflict = afterEnd("P2 nothing is read after a conflict", BeginTest::conflict);
@@ -91,16 +91,8 @@ public final class BeginTest {
     }
 
     /** "t outside 0..3: BAD" */
-    private static void outsideIsBad() {
-        Log closed = new Log("P2 t outside 0..3 is BAD when none is open");
-        Log open = new Log("P2 t outside 0..3 is BAD when all are open");
-        open.beginAll();
-        for (int t : Edges.NO_TRANSACTION) {
-            closed.begin(t).is(MeldLog.BAD);
-            open.begin(t).is(MeldLog.BAD);
-        }
-        closed.begin(0).is(0);
-        closed.begin(3).is(0);
+    private static void transactionOutsideIsBad() {
+        Refusals.transactionOutsideIsBad("P2", (x, t) -> x.begin(t));
     }
 
     /** "it is open: OPEN" */

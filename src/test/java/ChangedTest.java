@@ -99,7 +99,7 @@ public final class ChangedTest {
         x.changed(1, 2).is(1);
     }
 
-    /** "some commit … wrote or erased it": also if it is as before in the end. */
+    /** "some commit ... wrote or erased it": also if it is as before in the end. */
     private static void thereAndBackIsAChange() {
         Log x = new Log("P14 there and back again is a change");
         x.commitWrite(0, 5, 50);
@@ -115,7 +115,7 @@ public final class ChangedTest {
         x.changed(4, 5).is(1);
     }
 
-    /** "some commit that made one of the states … wrote or erased it" */
+    /** "some commit that made one of the states ... wrote or erased it" */
     private static void readsAndOpenOnesAreNoChange() {
         Log x = new Log("P14 reads, and writes without a commit, are no change");
         x.begin(0);
@@ -155,7 +155,7 @@ public final class ChangedTest {
         }
     }
 
-    /** "BAD if … s >= t": s = t and s = t + 1 are, s = t - 1 is not. */
+    /** "BAD if ... s >= t": s = t and s = t + 1 are, s = t - 1 is not. */
     private static void badIfSIsNotBelowT() {
         for (int last = 1; last <= 20; last++) {
             Log x = new Log("P14 changed is BAD if s >= t");

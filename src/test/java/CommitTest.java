@@ -2,7 +2,7 @@
 public final class CommitTest {
     public static void main(String[] args) {
         closesThatTransactionAlone();
-        outsideIsBad();
+        transactionOutsideIsBad();
         notOpenIsClosed();
         conflictWithAnyStateSinceTheBase();
         changeThatMadeTheBaseIsNoConflict();
@@ -36,42 +36,14 @@ public final class CommitTest {
         }
     }
 
-    /** "BAD … as above": "t outside 0..3" */
-    private static void outsideIsBad() {
-        Log x = new Log("P8 t outside 0..3 is BAD");
-        for (int t : Edges.NO_TRANSACTION) {
-            x.commit(t).is(MeldLog.BAD);
-        }
-        x.beginAll();
-        for (int t : Edges.NO_TRANSACTION) {
-            x.commit(t).is(MeldLog.BAD);
-        }
-        x.latest().is(0);
-        x.commit(0).is(1);
-        x.commit(3).is(2);
+    /** "BAD ... as above": "t outside 0..3" */
+    private static void transactionOutsideIsBad() {
+        Refusals.transactionOutsideIsBad("P8", (x, t) -> x.commit(t));
     }
 
-    /** "CLOSED as above": before it is begun and after each of its ends. */
+    /** "CLOSED as above" */
     private static void notOpenIsClosed() {
-        for (int t = 0; t < 4; t++) {
-            Log x = new Log("P8 one that is not open is CLOSED");
-            int other = (t + 1) % 4;
-            x.begin(other);
-            x.commit(t).is(MeldLog.CLOSED);
-            x.begin(t);
-            x.commit(t).is(1);
-            x.commit(t).is(MeldLog.CLOSED);
-            x.begin(t);
-            x.abort(t).is(0);
-            x.commit(t).is(MeldLog.CLOSED);
-            x.begin(t);
-            x.read(t, 1);
-            x.write(other, 1, 1);
-            x.commit(other).is(2);
-            x.commit(t).is(MeldLog.CONFLICT);
-            x.commit(t).is(MeldLog.CLOSED);
-            x.latest().is(2);
-        }
+        Refusals.notOpenIsClosed("P8", (x, t) -> x.commit(t));
     }
 
     /**

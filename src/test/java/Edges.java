@@ -1,4 +1,4 @@
-/** The numbers at which a test looks: just outside a range, at the ends of int, and what could be mistaken for one inside. */
+/** The numbers at which the tests look: just outside a range, at the ends of int, and what could pass for one inside. */
 final class Edges {
     static final int MIN = Integer.MIN_VALUE;
     static final int MAX = Integer.MAX_VALUE;

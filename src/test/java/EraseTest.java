@@ -7,7 +7,6 @@ public final class EraseTest {
         transactionOutsideIsBad();
         keyOutsideIsBad();
         notOpenIsClosed();
-        endedIsClosed();
         sixKeysFit();
         seventhKeyIsFull();
         oneOfTheSixIsNotFull();
@@ -73,59 +72,19 @@ public final class EraseTest {
         x.size(2).is(0);
     }
 
-    /** "Answers as write does.": "t outside 0..3 … BAD" */
+    /** "Answers as write does.": "t outside 0..3 ... BAD" */
     private static void transactionOutsideIsBad() {
-        Log x = new Log("P4 t outside 0..3 is BAD");
-        x.beginAll();
-        for (int t : Edges.NO_TRANSACTION) {
-            x.erase(t, 0).is(MeldLog.BAD);
-            x.erase(t, 31).is(MeldLog.BAD);
-        }
-        x.erase(0, 0).is(1);
-        x.erase(3, 0).is(1);
+        Refusals.transactionOutsideIsBad("P4", (x, t) -> x.erase(t, 31));
     }
 
     /** "Answers as write does.": "key outside 0..31: BAD" */
     private static void keyOutsideIsBad() {
-        Log x = new Log("P4 a key outside 0..31 is BAD");
-        x.beginAll();
-        for (int key : Edges.NO_KEY) {
-            for (int t = 0; t < 4; t++) {
-                x.erase(t, key).is(MeldLog.BAD);
-            }
-        }
-        x.erase(1, 0).is(1);
-        x.erase(1, 31).is(2);
+        Refusals.keyOutsideIsBad("P4", (x, t, key) -> x.erase(t, key));
     }
 
     /** "Answers as write does.": "t is not open: CLOSED" */
     private static void notOpenIsClosed() {
-        for (int t = 0; t < 4; t++) {
-            Log x = new Log("P4 one that is not open is CLOSED");
-            for (int other = 0; other < 4; other++) {
-                if (other != t) {
-                    x.begin(other);
-                }
-            }
-            x.erase(t, 0).is(MeldLog.CLOSED);
-            x.erase(t, 31).is(MeldLog.CLOSED);
-        }
-    }
-
-    /** "Answers as write does.": "t is not open: CLOSED", after each of its ends. */
-    private static void endedIsClosed() {
-        Log x = new Log("P4 an ended one is CLOSED");
-        x.begin(0);
-        x.commit(0).is(1);
-        x.erase(0, 1).is(MeldLog.CLOSED);
-        x.begin(0);
-        x.abort(0).is(0);
-        x.erase(0, 1).is(MeldLog.CLOSED);
-        x.begin(0);
-        x.read(0, 1);
-        x.commitWrite(1, 1, 1);
-        x.commit(0).is(MeldLog.CONFLICT);
-        x.erase(0, 1).is(MeldLog.CLOSED);
+        Refusals.notOpenIsClosed("P4", (x, t) -> x.erase(t, 0));
     }
 
     /** "Answers as write does.": 5 other keys are not FULL, whichever the sixth is. */

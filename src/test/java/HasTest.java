@@ -74,7 +74,7 @@ public final class HasTest {
         }
     }
 
-    /** "false if the state is … not kept": latest - 5 is kept, latest - 6 is not. */
+    /** "false if the state is ... not kept": latest - 5 is kept, latest - 6 is not. */
     private static void falseIfTheStateIsNotKept() {
         for (int last = 1; last <= 30; last++) {
             Log x = new Log("P11 has is false if the state is not kept");
@@ -87,7 +87,7 @@ public final class HasTest {
         }
     }
 
-    /** "false if … key is outside 0..31" */
+    /** "false if ... key is outside 0..31" */
     private static void falseIfTheKeyIsOutside() {
         Log x = new Log("P11 has is false if the key is outside 0..31");
         x.commitAllKeys(0);

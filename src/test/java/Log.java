@@ -40,6 +40,10 @@ final class Log {
             is(due ? 1 : 0);
         }
 
+        void isNot(int refusal) {
+            Checks.holds(sentence + ": " + this + " is not " + refusal, got != refusal);
+        }
+
         @Override
         public String toString() {
             return "call " + number + ", " + name + Arrays.stream(arguments)

@@ -20,6 +20,7 @@ public final class OrderTest {
         conflictChangesNoMoreThanAnAbort();
         refusedAbortChangesNothing();
         refusedQuestionsChangeNothing();
+        refusedCallsOnANewObjectChangeNothing();
         answeredQuestionsChangeNothing();
         Checks.finish();
     }
@@ -111,7 +112,7 @@ public final class OrderTest {
         x.commit(1).is(MeldLog.CLOSED);
     }
 
-    /** size: "BAD …; GONE …": a state that is not there is not kept either. */
+    /** size: "BAD ...; GONE ...": a state that is not there is not kept either. */
     private static void badBeforeGoneInSize() {
         Log x = new Log("P15 BAD comes before GONE in size");
         x.commitNothing(0, 9);
@@ -122,7 +123,7 @@ public final class OrderTest {
         x.size(3).is(MeldLog.GONE);
     }
 
-    /** changed: "BAD …; GONE …" */
+    /** changed: "BAD ...; GONE ..." */
     private static void badBeforeGoneInChanged() {
         Log x = new Log("P15 BAD comes before GONE in changed");
         x.commitNothing(0, 9);
@@ -175,9 +176,11 @@ public final class OrderTest {
     }
 
     private static void changesNothing(String sentence, Function<Log, Log.Answer> call, int due) {
-        Consumer<Log> lead = OrderTest::lead;
-        Twins.areAlike("P15 a refused call changes nothing: " + sentence,
-            lead.andThen(x -> call.apply(x).is(due)), lead);
+        changesNothing(sentence, OrderTest::lead, call, due);
+    }
+
+    private static void changesNothing(String sentence, Consumer<Log> lead, Function<Log, Log.Answer> call, int due) {
+        Twins.areAlike("P15 the call changes nothing: " + sentence, lead.andThen(x -> call.apply(x).is(due)), lead);
     }
 
     private static void refusedBeginChangesNothing() {
@@ -284,6 +287,32 @@ public final class OrderTest {
         changesNothing("size, GONE", x -> x.size(4), MeldLog.GONE);
         changesNothing("changed, s >= t", x -> x.changed(10, 10), MeldLog.BAD);
         changesNothing("changed, GONE", x -> x.changed(4, 10), MeldLog.GONE);
+    }
+
+    private static void onNew(String sentence, Function<Log, Log.Answer> call, int due) {
+        changesNothing(sentence + ", on a new object", x -> { }, call, due);
+    }
+
+    /** "a refused call changes nothing": with all transactions as they were made, and state 0 alone. */
+    private static void refusedCallsOnANewObjectChangeNothing() {
+        onNew("begin, BAD", x -> x.begin(4), MeldLog.BAD);
+        onNew("write, BAD", x -> x.write(0, 32, 9), MeldLog.BAD);
+        onNew("write, CLOSED", x -> x.write(0, 31, 9), MeldLog.CLOSED);
+        onNew("erase, BAD", x -> x.erase(0, -1), MeldLog.BAD);
+        onNew("erase, CLOSED", x -> x.erase(1, 0), MeldLog.CLOSED);
+        onNew("read, BAD", x -> x.read(0, 32), MeldLog.BAD);
+        onNew("read, CLOSED", x -> x.read(2, 31), MeldLog.CLOSED);
+        onNew("peek, t is not open", x -> x.peek(3, 0), 0);
+        onNew("countRange, BAD", x -> x.countRange(0, 1, 0), MeldLog.BAD);
+        onNew("countRange, CLOSED", x -> x.countRange(3, 0, 31), MeldLog.CLOSED);
+        onNew("commit, BAD", x -> x.commit(-1), MeldLog.BAD);
+        onNew("commit, CLOSED", x -> x.commit(0), MeldLog.CLOSED);
+        onNew("abort, BAD", x -> x.abort(4), MeldLog.BAD);
+        onNew("abort, CLOSED", x -> x.abort(3), MeldLog.CLOSED);
+        onNew("has, not there", x -> x.has(1, 0), 0);
+        onNew("at, not there", x -> x.at(1, 0), 0);
+        onNew("size, BAD", x -> x.size(1), MeldLog.BAD);
+        onNew("changed, BAD", x -> x.changed(0, 1), MeldLog.BAD);
     }
 
     /** Nor do those that only ask, where they are answered. */

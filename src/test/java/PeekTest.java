@@ -122,7 +122,7 @@ public final class PeekTest {
         return x;
     }
 
-    /** "0 if … a number is out of range": t. */
+    /** "0 if ... a number is out of range": t. */
     private static void zeroForTransactionOutside() {
         Log x = allOpenWithAllKeys("P6 peek answers 0 if t is outside 0..3");
         for (int t : Edges.NO_TRANSACTION) {
@@ -133,7 +133,7 @@ public final class PeekTest {
         x.peek(3, 31).is(131);
     }
 
-    /** "0 if … a number is out of range": the key. */
+    /** "0 if ... a number is out of range": the key. */
     private static void zeroForKeyOutside() {
         Log x = allOpenWithAllKeys("P6 peek answers 0 if the key is outside 0..31");
         for (int key : Edges.NO_KEY) {

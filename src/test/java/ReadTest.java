@@ -3,12 +3,13 @@ public final class ReadTest {
     public static void main(String[] args) {
         oneIfItHasAValue();
         oneWhateverTheValue();
-        sawTheOwnChanges();
+        answersFromTheView();
         countsAsReadFromThenOn();
         noOtherKeyCounts();
         noOtherTransactionHasRead();
         readOfNoValueCounts();
         readOfOwnChangeCounts();
+        changeAfterTheReadLeavesIt();
         readAfterTheChangeCounts();
         allKeysCanBeRead();
         transactionOutsideIsBad();
@@ -45,7 +46,7 @@ public final class ReadTest {
     }
 
     /** "in the view": with its own writes and erasures, and none of the others'. */
-    private static void sawTheOwnChanges() {
+    private static void answersFromTheView() {
         Log x = new Log("P5 read answers from the view");
         x.commitWrite(0, 0, 5);
         x.begin(0);
@@ -80,7 +81,7 @@ public final class ReadTest {
         }
     }
 
-    /** "a key … which counts as read": the one that was read, not those beside it. */
+    /** "a key ... which counts as read": the one that was read, not those beside it. */
     private static void noOtherKeyCounts() {
         for (int key = 0; key < 32; key++) {
             Log x = new Log("P5 only the key that was read counts as read");
@@ -95,6 +96,7 @@ public final class ReadTest {
         }
     }
 
+    /** "Reads a key in a transaction": in that one. */
     private static void noOtherTransactionHasRead() {
         for (int t = 0; t < 4; t++) {
             Log x = new Log("P5 a read is that transaction's alone");
@@ -120,21 +122,36 @@ public final class ReadTest {
 
     /** "which counts as read": also where the transaction itself gave what it reads. */
     private static void readOfOwnChangeCounts() {
-        Log x = new Log("P5 an own write counts as read");
+        Log x = new Log("P5 an own write or erasure counts as read");
         x.begin(0);
         x.begin(1);
-        x.begin(2);
         x.write(0, 4, 40);
         x.read(0, 4).is(1);
         x.erase(1, 4);
         x.read(1, 4).is(0);
+        x.commitWrite(3, 4, 42);
+        x.commit(0).is(MeldLog.CONFLICT);
+        x.commit(1).is(MeldLog.CONFLICT);
+        x.at(1, 4).is(42);
+    }
+
+    /** "from then on": what the transaction does with the key later takes nothing back. */
+    private static void changeAfterTheReadLeavesIt() {
+        Log x = new Log("P5 a key stays read when it is written or erased");
+        x.begin(0);
+        x.begin(1);
+        x.begin(2);
+        x.read(0, 4).is(0);
+        x.write(0, 4, 40);
+        x.read(1, 4).is(0);
+        x.erase(1, 4);
         x.read(2, 4).is(0);
-        x.write(2, 4, 41);
+        x.peek(2, 4);
+        x.read(2, 5);
         x.commitWrite(3, 4, 42);
         x.commit(0).is(MeldLog.CONFLICT);
         x.commit(1).is(MeldLog.CONFLICT);
         x.commit(2).is(MeldLog.CONFLICT);
-        x.at(1, 4).is(42);
     }
 
     /** "from then on": what matters is the change since the base, be it before the read. */
@@ -163,52 +180,19 @@ public final class ReadTest {
         }
     }
 
-    /** "BAD … as in write": "t outside 0..3" */
+    /** "BAD ... as in write": "t outside 0..3" */
     private static void transactionOutsideIsBad() {
-        Log x = new Log("P5 t outside 0..3 is BAD");
-        x.beginAll();
-        for (int t : Edges.NO_TRANSACTION) {
-            x.read(t, 0).is(MeldLog.BAD);
-            x.read(t, 31).is(MeldLog.BAD);
-        }
-        x.read(0, 0).is(0);
-        x.read(3, 0).is(0);
+        Refusals.transactionOutsideIsBad("P5", (x, t) -> x.read(t, 31));
     }
 
-    /** "BAD … as in write": "key outside 0..31" */
+    /** "BAD ... as in write": "key outside 0..31" */
     private static void keyOutsideIsBad() {
-        Log x = new Log("P5 a key outside 0..31 is BAD");
-        x.commitAllKeys(0);
-        x.beginAll();
-        for (int key : Edges.NO_KEY) {
-            for (int t = 0; t < 4; t++) {
-                x.read(t, key).is(MeldLog.BAD);
-            }
-        }
-        x.read(1, 0).is(1);
-        x.read(1, 31).is(1);
+        Refusals.keyOutsideIsBad("P5", (x, t, key) -> x.read(t, key));
     }
 
-    /** "CLOSED as in write": before it is begun and after each of its ends. */
+    /** "CLOSED as in write" */
     private static void notOpenIsClosed() {
-        for (int t = 0; t < 4; t++) {
-            Log x = new Log("P5 one that is not open is CLOSED");
-            int other = (t + 1) % 4;
-            x.begin(other);
-            x.read(t, 1).is(MeldLog.CLOSED);
-            x.begin(t);
-            x.commit(t).is(1);
-            x.read(t, 1).is(MeldLog.CLOSED);
-            x.begin(t);
-            x.abort(t).is(0);
-            x.read(t, 1).is(MeldLog.CLOSED);
-            x.begin(t);
-            x.read(t, 1).is(0);
-            x.write(other, 1, 1);
-            x.commit(other).is(2);
-            x.commit(t).is(MeldLog.CONFLICT);
-            x.read(t, 1).is(MeldLog.CLOSED);
-        }
+        Refusals.notOpenIsClosed("P5", (x, t) -> x.read(t, 0));
     }
 
     /** "BAD and CLOSED as in write", and not FULL. */

@@ -289,31 +289,24 @@ public final class TermsTest {
         }
     }
 
-    /** "A key is CHANGED between two states": in the same way for a commit as for changed. */
+    /** "A key is CHANGED between two states": by s + 1 to t, in the same way for a commit as for changed. */
     private static void changedIsTheSameForConflictsAndCounts() {
-        for (int before = 0; before <= 3; before++) {
-            for (int base = 0; base <= 4; base++) {
+        for (int made = 1; made <= 4; made++) {
+            for (int base = 0; base <= 3; base++) {
                 Log x = new Log("Terms: changed is the same for commit and for changed");
                 for (int state = 1; state <= 4; state++) {
                     if (base == state - 1) {
                         x.begin(0).is(base);
                         x.read(0, 5);
                     }
-                    if (state == before + 1) {
+                    if (state == made) {
                         x.commitErase(1, 5);
                     } else {
-                        x.commitWrite(1, 6, state);
+                        x.commitNothing(1, 1);
                     }
                 }
-                if (base == 4) {
-                    x.begin(0).is(base);
-                    x.read(0, 5);
-                }
-                boolean changed = base <= before;
-                if (base < 4) {
-                    x.changed(base, 4).is((changed ? 1 : 0) + (base < 3 || !changed ? 1 : 0));
-                }
-                x.commit(0).is(changed ? MeldLog.CONFLICT : 5);
+                x.changed(base, 4).is(base < made ? 1 : 0);
+                x.commit(0).is(base < made ? MeldLog.CONFLICT : 5);
             }
         }
     }

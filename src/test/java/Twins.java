@@ -37,7 +37,8 @@ final class Twins {
         }
     }
 
-    private static List<Log.Answer> answers(String sentence, Consumer<Log> way, BiConsumer<Log, List<Log.Answer>> look) {
+    private static List<Log.Answer> answers(String sentence, Consumer<Log> way,
+            BiConsumer<Log, List<Log.Answer>> look) {
         Log x = new Log(sentence);
         way.accept(x);
         List<Log.Answer> seen = new ArrayList<>();
@@ -88,12 +89,16 @@ final class Twins {
         }
     }
 
+    /** Looks also at the one that is begun in its place: what a refused call left there would come to light. */
     private static void lookAtTransaction(Log x, List<Log.Answer> seen, int t) {
         for (int key = 0; key < 32; key++) {
             seen.add(x.read(t, key));
         }
         seen.add(x.abort(t));
         seen.add(x.begin(t));
+        for (int key = 0; key < 32; key++) {
+            seen.add(x.peek(t, key));
+        }
         seen.add(x.abort(t));
     }
 

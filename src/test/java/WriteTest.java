@@ -6,7 +6,6 @@ public final class WriteTest {
         transactionOutsideIsBad();
         keyOutsideIsBad();
         notOpenIsClosed();
-        endedIsClosed();
         sixKeysFit();
         seventhKeyIsFull();
         seventhKeyIsFullAfterErasures();
@@ -52,59 +51,19 @@ public final class WriteTest {
         }
     }
 
-    /** "t outside 0..3 … BAD" */
+    /** "t outside 0..3 ... BAD" */
     private static void transactionOutsideIsBad() {
-        Log x = new Log("P3 t outside 0..3 is BAD");
-        x.beginAll();
-        for (int t : Edges.NO_TRANSACTION) {
-            x.write(t, 0, 1).is(MeldLog.BAD);
-            x.write(t, 31, 1).is(MeldLog.BAD);
-        }
-        x.write(0, 0, 1).is(1);
-        x.write(3, 0, 1).is(1);
+        Refusals.transactionOutsideIsBad("P3", (x, t) -> x.write(t, 31, 1));
     }
 
     /** "key outside 0..31: BAD" */
     private static void keyOutsideIsBad() {
-        Log x = new Log("P3 a key outside 0..31 is BAD");
-        x.beginAll();
-        for (int key : Edges.NO_KEY) {
-            for (int t = 0; t < 4; t++) {
-                x.write(t, key, 1).is(MeldLog.BAD);
-            }
-        }
-        x.write(1, 0, 1).is(1);
-        x.write(1, 31, 1).is(2);
+        Refusals.keyOutsideIsBad("P3", (x, t, key) -> x.write(t, key, 1));
     }
 
     /** "t is not open: CLOSED" */
     private static void notOpenIsClosed() {
-        for (int t = 0; t < 4; t++) {
-            Log x = new Log("P3 one that is not open is CLOSED");
-            for (int other = 0; other < 4; other++) {
-                if (other != t) {
-                    x.begin(other);
-                }
-            }
-            x.write(t, 0, 1).is(MeldLog.CLOSED);
-            x.write(t, 31, 1).is(MeldLog.CLOSED);
-        }
-    }
-
-    /** "t is not open: CLOSED": after each of its ends. */
-    private static void endedIsClosed() {
-        Log x = new Log("P3 an ended one is CLOSED");
-        x.begin(0);
-        x.commit(0).is(1);
-        x.write(0, 1, 1).is(MeldLog.CLOSED);
-        x.begin(0);
-        x.abort(0).is(0);
-        x.write(0, 1, 1).is(MeldLog.CLOSED);
-        x.begin(0);
-        x.read(0, 1);
-        x.commitWrite(1, 1, 1);
-        x.commit(0).is(MeldLog.CONFLICT);
-        x.write(0, 1, 1).is(MeldLog.CLOSED);
+        Refusals.notOpenIsClosed("P3", (x, t) -> x.write(t, 0, 1));
     }
 
     /** "it has written or erased 6 other keys: FULL": 5 others are not too many, whichever the sixth is. */
