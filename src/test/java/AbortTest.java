@@ -12,7 +12,7 @@ public final class AbortTest {
         Checks.finish();
     }
 
-    /** "Closes a transaction" */
+    /** "Closes a transaction": that one. */
     private static void closesThatTransactionAlone() {
         for (int t = 0; t < 4; t++) {
             Log x = new Log("P9 abort closes that transaction, and no other");

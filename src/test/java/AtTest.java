@@ -35,6 +35,7 @@ public final class AtTest {
         }
     }
 
+    /** "The value of a key": any int. */
     private static void tellsAnyValue() {
         for (int value : Edges.ANY_VALUE) {
             Log x = new Log("P12 at tells any int");
@@ -61,6 +62,7 @@ public final class AtTest {
         x.at(3, 29).is(0);
     }
 
+    /** "in a kept state": what an open transaction has written or erased is in none. */
     private static void openTransactionsAreNotSeen() {
         Log x = new Log("P12 at sees nothing of an open transaction");
         x.commitWrite(0, 1, 1);

@@ -15,7 +15,7 @@ public final class BeginTest {
         Checks.finish();
     }
 
-    /** "Opens a transaction" */
+    /** "Opens a transaction": that one. */
     private static void opensThatTransactionAlone() {
         for (int t = 0; t < 4; t++) {
             Log x = new Log("P2 begin opens that transaction, and no other");

@@ -46,7 +46,7 @@ public final class ChangedTest {
         x.changed(3, 4).is(1);
     }
 
-    /** "The number of keys": each of the 32, written or erased. */
+    /** "The number of keys that are changed between two kept states s < t.": each of the 32, written or erased. */
     private static void countsEachKey() {
         for (int key = 0; key < 32; key++) {
             Log x = new Log("P14 each key counts");

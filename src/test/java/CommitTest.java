@@ -23,7 +23,7 @@ public final class CommitTest {
         Checks.finish();
     }
 
-    /** "Commits and closes a transaction." */
+    /** "Commits and closes a transaction.": that one. */
     private static void closesThatTransactionAlone() {
         for (int t = 0; t < 4; t++) {
             Log x = new Log("P8 commit closes that transaction, and no other");
@@ -149,7 +149,7 @@ public final class CommitTest {
         }
     }
 
-    /** A change lies in a commit, so that what the transaction itself has written is none yet. */
+    /** "changed between its base and the latest state": what the transaction itself has written is in no state yet. */
     private static void ownWritesAreNoConflict() {
         Log x = new Log("P8 its own writes are no CONFLICT");
         x.begin(0);
@@ -238,7 +238,7 @@ public final class CommitTest {
         x.commit(1).is(2);
     }
 
-    /** "the next state is the latest one with the transaction's writes and erasures": not the base with them. */
+    /** "Else the next state is the latest one with the transaction's writes and erasures": not the base with them. */
     private static void nextStateIsTheLatestWithTheChanges() {
         Log x = new Log("P8 the next state is the latest one with the changes");
         x.commitWrite(0, 1, 10);

@@ -9,6 +9,7 @@ public final class CountRangeTest {
         allKeysCountAsRead();
         keysBesideTheRangeAreNotRead();
         keysOfAllRangesAreRead();
+        noOtherTransactionHasRead();
         ownChangesCountAsRead();
         transactionOutsideIsBad();
         lowOutsideIsBad();
@@ -147,6 +148,11 @@ public final class CountRangeTest {
             boolean read = key >= 3 && key <= 5 || key == 10 || key == 30;
             x.commit(0).is(read ? MeldLog.CONFLICT : 2);
         }
+    }
+
+    /** "count as read": in the transaction that counts them, and in no other. */
+    private static void noOtherTransactionHasRead() {
+        Readings.areThatTransactionsAlone("P7", (x, t) -> x.countRange(t, 0, 31));
     }
 
     /** "all keys": also those that the transaction itself has written or erased. */

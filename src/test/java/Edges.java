@@ -1,4 +1,4 @@
-/** The numbers at which the tests look: just outside a range, at the ends of int, and what could pass for one inside. */
+/** Where the tests look: just outside a range, at the ends of int, and at what could pass for a number inside. */
 final class Edges {
     static final int MIN = Integer.MIN_VALUE;
     static final int MAX = Integer.MAX_VALUE;

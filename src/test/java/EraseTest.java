@@ -56,7 +56,7 @@ public final class EraseTest {
         }
     }
 
-    /** An erasure is the transaction's own until the commit, and old states stay as they are after it. */
+    /** "Erases a key in a transaction": not in the states, of which old ones stay as they are also after the commit. */
     private static void keptStatesHoldItStill() {
         Log x = new Log("P4 an erasure comes with the commit and leaves old states");
         x.commitWrite(0, 31, 310);

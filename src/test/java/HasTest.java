@@ -50,6 +50,7 @@ public final class HasTest {
         }
     }
 
+    /** "in a kept state": what an open transaction has written or erased is in none. */
     private static void openTransactionsAreNotSeen() {
         Log x = new Log("P11 has sees nothing of an open transaction");
         x.commitWrite(0, 1, 1);

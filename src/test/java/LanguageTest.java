@@ -9,29 +9,38 @@ import java.util.TreeMap;
 import java.util.TreeSet;
 import java.util.regex.Matcher;
 import java.util.regex.Pattern;
+import java.util.stream.Collectors;
 
-/** The rules of LANGUAGE.md that the source's text shows; run from the project's folder. */
+/**
+ * The rules of LANGUAGE.md that the source's text shows; those on members are in FaceTest, rule 7 in NeverThrowsTest.
+ * Run from the project's folder.
+ */
 public final class LanguageTest {
-    private static final String[] FORBIDDEN = {"import", "package", "float", "double", "null", "throw", "throws",
-        "try", "catch", "finally", "synchronized", "assert", "instanceof", "enum", "record", "interface",
-        "protected", "native", "String", "Object", "Math", "Integer", "Long", "System", "Arrays", "Override", "var"};
-    private static final Set<String> NOT_CALLS = Set.of("if", "for", "while", "switch", "return", "do", "else");
+    private static final Set<String> WORDS = Set.of("public", "private", "final", "static", "class", "new", "this",
+        "int", "long", "short", "byte", "char", "boolean", "void", "true", "false", "if", "else", "for", "switch",
+        "case", "default", "break", "continue", "return", "MeldLog");
+    private static final Set<String> NOT_CALLS = Set.of("if", "for", "switch", "return", "else");
+    private static final String TYPE = "(?:int|long|short|byte|char|boolean|void)(?:\\[\\])?";
+    private static final Pattern DECLARED = Pattern.compile("\\b" + TYPE + " (\\w+)");
+    private static final Pattern WORD = Pattern.compile("\\b([A-Za-z_$]\\w*)");
     private static final Pattern METHOD =
-        Pattern.compile("(?m)^    (?:public|private)(?: static)? (?:\\w+ )?(\\w+)\\([^)]*\\) \\{$");
+        Pattern.compile("(?m)^    (?:public|private)(?: static)? (?:" + TYPE + " )?(\\w+)\\([^)]*\\) \\{$");
     private static final Pattern CALL = Pattern.compile("\\b(\\w+)\\s*\\(");
     private static final Pattern NEW = Pattern.compile("\\bnew\\b");
     private static final Pattern FIELD_ARRAY =
-        Pattern.compile("(?m)^    private final \\w+\\[\\] \\w+ = new \\w+\\[\\w+\\];$");
+        Pattern.compile("(?m)^    private final \\w+\\[\\] \\w+ = new \\w+\\[[A-Z_]+\\];$");
+    private static final Pattern LOOP = Pattern.compile("\\bfor\\b");
+    private static final Pattern COUNTED_LOOP =
+        Pattern.compile("\\bfor \\(int (\\w+) = [^;=]+; \\1 <=? \\w+; \\1\\+\\+\\) \\{");
 
     public static void main(String[] args) throws IOException {
         String source = withoutComments(Files.readString(Path.of("src/main/java/MeldLog.java")));
-        for (String word : FORBIDDEN) {
-            Checks.holds("no '" + word + "'", !Pattern.compile("\\b" + word + "\\b").matcher(source).find());
-        }
-        for (String sign : new String[] {"->", "::", "\"", "@", "[][]", "static {"}) {
-            Checks.holds("no '" + sign + "'", !source.contains(sign));
-        }
-        Checks.due("arrays made outside of field initialisers", count(NEW, source) - count(FIELD_ARRAY, source), 0);
+        noOtherWords(source);
+        noOtherSigns(source);
+        Checks.due("rule 4: arrays made elsewhere than in a field's initialiser, with a constant length",
+            count(NEW, source) - count(FIELD_ARRAY, source), 0);
+        Checks.due("rule 8: loops without a counter against a bound",
+            count(LOOP, source) - count(COUNTED_LOOP, source), 0);
         noCallInArguments(source);
         Map<String, String> bodies = methodBodies(source);
         Checks.holds("methods are found", bodies.size() > 14);
@@ -48,7 +57,26 @@ public final class LanguageTest {
         return (int) pattern.matcher(text).results().count();
     }
 
-    /** Walks over the parentheses and remembers for each open one whether it belongs to a call. */
+    private static Set<String> found(Pattern pattern, String text) {
+        return pattern.matcher(text).results().map(match -> match.group(1))
+            .collect(Collectors.toCollection(TreeSet::new));
+    }
+
+    /** Rules 1 to 6 and 11: with these words and its own names alone, the class reaches nothing outside it. */
+    private static void noOtherWords(String source) {
+        Set<String> others = found(WORD, source);
+        others.removeAll(WORDS);
+        others.removeAll(found(DECLARED, source));
+        Checks.holds("rules 1 to 6: no other words, but there are " + others, others.isEmpty());
+    }
+
+    private static void noOtherSigns(String source) {
+        for (String sign : new String[] {"->", "::", "\"", "@", "[][]", "] []", "static {", "..."}) {
+            Checks.holds("rules 2 to 6: no '" + sign + "'", !source.contains(sign));
+        }
+    }
+
+    /** Rule 10; walks over the parentheses and remembers for each open one whether it belongs to a call. */
     private static void noCallInArguments(String source) {
         Deque<Boolean> parentheses = new ArrayDeque<>();
         for (int i = 0; i < source.length(); i++) {
@@ -57,7 +85,7 @@ public final class LanguageTest {
             } else if (source.charAt(i) == '(') {
                 Matcher before = Pattern.compile("(\\w+)\\s*$").matcher(source.substring(Math.max(0, i - 60), i));
                 boolean call = before.find() && !NOT_CALLS.contains(before.group(1));
-                Checks.holds("no call inside arguments, at " + i, !call || !parentheses.contains(true));
+                Checks.holds("rule 10: no call inside arguments, at " + i, !call || !parentheses.contains(true));
                 parentheses.push(call);
             }
         }
@@ -75,36 +103,29 @@ public final class LanguageTest {
 
     private static void methodsAreShort(Map<String, String> bodies) {
         for (Map.Entry<String, String> method : bodies.entrySet()) {
-            Checks.holds(method.getKey() + " is short", method.getValue().lines().count() <= 60);
+            Checks.holds("rule 10: " + method.getKey() + " is short", method.getValue().lines().count() <= 60);
         }
     }
 
     private static void callsEnd(Map<String, String> bodies) {
         Set<String> level = new TreeSet<>(bodies.keySet());
-        int depth = 0;
         // A recursion would never run out of callees.
-        while (!level.isEmpty() && depth <= 6) {
+        for (int depth = 1; depth <= 6; depth++) {
             Set<String> next = new TreeSet<>();
             for (String name : level) {
                 next.addAll(callees(bodies, name));
             }
             level = next;
-            depth++;
         }
-        Checks.holds("calls go at most six deep and there is no recursion", level.isEmpty());
+        Checks.holds("rules 8 and 10: calls go at most six deep, without recursion", level.isEmpty());
     }
 
     private static Set<String> callees(Map<String, String> bodies, String name) {
-        Set<String> callees = new TreeSet<>();
-        Matcher call = CALL.matcher(bodies.get(name));
-        while (call.find()) {
-            if (!NOT_CALLS.contains(call.group(1))) {
-                Checks.holds(name + " calls a method of the class: " + call.group(1), bodies.containsKey(call.group(1)));
-                if (bodies.containsKey(call.group(1))) {
-                    callees.add(call.group(1));
-                }
-            }
-        }
+        Set<String> callees = found(CALL, bodies.get(name));
+        callees.removeAll(NOT_CALLS);
+        Checks.holds("rule 3: " + name + " calls the class's own methods, not " + callees,
+            bodies.keySet().containsAll(callees));
+        callees.retainAll(bodies.keySet());
         return callees;
     }
 }

@@ -7,6 +7,7 @@ public final class LatestTest {
         Checks.finish();
     }
 
+    /** "The number of the latest state.": "state 0 ... is there in the beginning". */
     private static void isZeroInTheBeginning() {
         Log x = new Log("P10 latest is 0 in the beginning");
         x.latest().is(0);
@@ -24,6 +25,7 @@ public final class LatestTest {
         }
     }
 
+    /** "The number of the latest state.": "every commit that succeeds makes the next one", and no other call. */
     private static void staysWithAllElse() {
         Log x = new Log("P10 latest grows with nothing but a commit that succeeds");
         x.commitNothing(0, 3);

@@ -54,7 +54,7 @@ public final class NewObjectTest {
         }
     }
 
-    /** A new object is new whatever has been done with others, before and after it was made. */
+    /** "State 0 only; no transaction is open.": whatever has been done with others, before and after it was made. */
     private static void objectsAreApart() {
         Log before = new Log("P1 an object knows nothing of others");
         Log x = new Log("P1 an object knows nothing of others");

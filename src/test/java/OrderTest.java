@@ -25,7 +25,7 @@ public final class OrderTest {
         Checks.finish();
     }
 
-    /** "tested in the order in which they are named": a number out of range, in one that is not open. */
+    /** "In each call refusals are tested in the order in which they are named": BAD, in one that is not open. */
     private static void badBeforeClosed() {
         for (int t = 0; t < 4; t++) {
             Log x = new Log("P15 BAD comes before CLOSED");
@@ -183,6 +183,7 @@ public final class OrderTest {
         Twins.areAlike("P15 the call changes nothing: " + sentence, lead.andThen(x -> call.apply(x).is(due)), lead);
     }
 
+    /** "a refused call changes nothing": BAD and OPEN. */
     private static void refusedBeginChangesNothing() {
         for (int t : new int[] {-1, 4, Edges.MIN, Edges.MAX}) {
             changesNothing("begin, BAD", x -> x.begin(t), MeldLog.BAD);
@@ -192,6 +193,7 @@ public final class OrderTest {
         }
     }
 
+    /** "a refused call changes nothing": BAD, CLOSED and FULL. */
     private static void refusedWriteChangesNothing() {
         for (int t : new int[] {-1, 4, Edges.MIN, Edges.MAX}) {
             changesNothing("write, BAD transaction", x -> x.write(t, 2, 9), MeldLog.BAD);
@@ -205,6 +207,7 @@ public final class OrderTest {
         changesNothing("write, FULL", x -> x.write(0, 10, 9), MeldLog.FULL);
     }
 
+    /** "a refused call changes nothing": BAD, CLOSED and FULL. */
     private static void refusedEraseChangesNothing() {
         for (int t : new int[] {-1, 4, Edges.MIN, Edges.MAX}) {
             changesNothing("erase, BAD transaction", x -> x.erase(t, 0), MeldLog.BAD);
@@ -218,6 +221,7 @@ public final class OrderTest {
         changesNothing("erase, FULL", x -> x.erase(0, 10), MeldLog.FULL);
     }
 
+    /** "a refused call changes nothing": BAD and CLOSED; nothing counts as read. */
     private static void refusedReadChangesNothing() {
         for (int t : new int[] {-1, 4, Edges.MIN, Edges.MAX}) {
             changesNothing("read, BAD transaction", x -> x.read(t, 0), MeldLog.BAD);
@@ -228,6 +232,7 @@ public final class OrderTest {
         changesNothing("read, CLOSED", x -> x.read(2, 0), MeldLog.CLOSED);
     }
 
+    /** "a refused call changes nothing": the cases that peek answers with 0. */
     private static void refusedPeekChangesNothing() {
         for (int number : new int[] {-1, 32, Edges.MIN, Edges.MAX}) {
             changesNothing("peek, t out of range", x -> x.peek(number, 0), 0);
@@ -236,6 +241,7 @@ public final class OrderTest {
         changesNothing("peek, t is not open", x -> x.peek(2, 0), 0);
     }
 
+    /** "a refused call changes nothing": BAD and CLOSED; nothing counts as read. */
     private static void refusedCountRangeChangesNothing() {
         for (int t : new int[] {-1, 4, Edges.MIN, Edges.MAX}) {
             changesNothing("countRange, BAD transaction", x -> x.countRange(t, 0, 31), MeldLog.BAD);
@@ -249,6 +255,7 @@ public final class OrderTest {
         changesNothing("countRange, CLOSED", x -> x.countRange(2, 0, 31), MeldLog.CLOSED);
     }
 
+    /** "a refused call changes nothing": BAD and CLOSED. */
     private static void refusedCommitChangesNothing() {
         for (int t : new int[] {-1, 4, Edges.MIN, Edges.MAX}) {
             changesNothing("commit, BAD", x -> x.commit(t), MeldLog.BAD);
@@ -256,13 +263,14 @@ public final class OrderTest {
         changesNothing("commit, CLOSED", x -> x.commit(2), MeldLog.CLOSED);
     }
 
-    /** "no state is made (the transaction is closed all the same)": as if it had been aborted. */
+    /** "a refused call changes nothing": a CONFLICT closes the transaction, as an abort does, and no more. */
     private static void conflictChangesNoMoreThanAnAbort() {
         Consumer<Log> lead = OrderTest::lead;
         Twins.areAlike("P15 a CONFLICT closes the transaction and changes nothing else",
             lead.andThen(x -> x.commit(1).is(MeldLog.CONFLICT)), lead.andThen(x -> x.abort(1).is(2)));
     }
 
+    /** "a refused call changes nothing": BAD and CLOSED. */
     private static void refusedAbortChangesNothing() {
         for (int t : new int[] {-1, 4, Edges.MIN, Edges.MAX}) {
             changesNothing("abort, BAD", x -> x.abort(t), MeldLog.BAD);
@@ -270,6 +278,7 @@ public final class OrderTest {
         changesNothing("abort, CLOSED", x -> x.abort(2), MeldLog.CLOSED);
     }
 
+    /** "a refused call changes nothing": the cases that has and at answer with false and 0; BAD and GONE. */
     private static void refusedQuestionsChangeNothing() {
         for (int state : new int[] {-1, 11, Edges.MIN, Edges.MAX}) {
             changesNothing("has, not there", x -> x.has(state, 0), 0);
@@ -315,7 +324,7 @@ public final class OrderTest {
         onNew("changed, BAD", x -> x.changed(0, 1), MeldLog.BAD);
     }
 
-    /** Nor do those that only ask, where they are answered. */
+    /** "Nothing is promised beyond the answers and state changes described above": of these, no change is. */
     private static void answeredQuestionsChangeNothing() {
         changesNothing("latest", Log::latest, 10);
         changesNothing("has", x -> x.has(5, 31), 1);

@@ -98,17 +98,7 @@ public final class ReadTest {
 
     /** "Reads a key in a transaction": in that one. */
     private static void noOtherTransactionHasRead() {
-        for (int t = 0; t < 4; t++) {
-            Log x = new Log("P5 a read is that transaction's alone");
-            x.beginAll();
-            x.read(t, 9);
-            int writer = (t + 1) % 4;
-            x.write(writer, 9, 1);
-            x.commit(writer).is(1);
-            x.commit((t + 2) % 4).is(2);
-            x.commit((t + 3) % 4).is(3);
-            x.commit(t).is(MeldLog.CONFLICT);
-        }
+        Readings.areThatTransactionsAlone("P5", (x, t) -> x.read(t, 9));
     }
 
     /** "which counts as read": also where the answer was 0. */
@@ -166,7 +156,7 @@ public final class ReadTest {
         x.commit(0).is(2);
     }
 
-    /** There is no limit to what is read. */
+    /** "which counts as read": there is no limit to what is read. */
     private static void allKeysCanBeRead() {
         for (int key = 0; key < 32; key++) {
             Log x = new Log("P5 all keys can be read and count");

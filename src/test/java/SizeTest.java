@@ -42,6 +42,7 @@ public final class SizeTest {
         x.size(5).is(0);
     }
 
+    /** "that have a value": any int is one, 0 too. */
     private static void countsWhateverTheValue() {
         Log x = new Log("P13 size counts a key whatever its value");
         for (int key = 0; key < 6; key++) {
@@ -50,6 +51,7 @@ public final class SizeTest {
         }
     }
 
+    /** "in a state": what an open transaction has written or erased is in none. */
     private static void openTransactionsAreNotSeen() {
         Log x = new Log("P13 size sees nothing of an open transaction");
         x.commitWrite(0, 1, 1);

@@ -10,10 +10,12 @@ public final class TermsTest {
         latestSixAreKept();
         oldStatesStayAsTheyWere();
         thereAreFourTransactions();
+        baseIsTheLatestOfItsBegin();
         baseIsReadWhenNoLongerKept();
         baseNoLongerKeptIsStillTheBase();
         upToSixKeys();
         whatItGaveThemIsTheLast();
+        readKeysAreASet();
         viewIsTheBaseWithItsOwnChanges();
         changedIsTheSameForConflictsAndCounts();
         Checks.finish();
@@ -78,7 +80,7 @@ public final class TermsTest {
         x.size(0).is(MeldLog.GONE);
     }
 
-    /** "every commit that succeeds makes the next one" */
+    /** "States are numbered; ... every commit that succeeds makes the next one" */
     private static void everyCommitThatSucceedsMakesTheNext() {
         Log x = new Log("Terms: every commit that succeeds makes the next state");
         x.beginAll();
@@ -140,7 +142,7 @@ public final class TermsTest {
         }
     }
 
-    /** A kept state is a state, in which what later commits do is not seen. */
+    /** "the latest 6 states are KEPT": as they were made; what later commits do is not seen in them. */
     private static void oldStatesStayAsTheyWere() {
         Log x = new Log("Terms: old states stay as they were");
         for (int last = 1; last <= 30; last++) {
@@ -175,6 +177,22 @@ public final class TermsTest {
             }
             x.begin(-1).is(MeldLog.BAD);
             x.begin(4).is(MeldLog.BAD);
+        }
+    }
+
+    /** "An open transaction has a BASE, the state that was the latest when it was begun": each its own. */
+    private static void baseIsTheLatestOfItsBegin() {
+        for (int t = 0; t < 3; t++) {
+            for (int key = 1; key <= 4; key++) {
+                Log x = new Log("Terms: the base is the state that was the latest when it was begun");
+                for (int each = 0; each < 3; each++) {
+                    x.begin(each).is(each);
+                    x.commitWrite(3, each + 1, 101 + each);
+                }
+                x.peek(t, key).is(key <= t ? 100 + key : 0);
+                x.read(t, key).is(key <= t ? 1 : 0);
+                x.commit(t).is(t < key && key <= 3 ? MeldLog.CONFLICT : 4);
+            }
         }
     }
 
@@ -266,6 +284,23 @@ public final class TermsTest {
         x.size(2).is(2);
     }
 
+    /** "the set of the keys that it has READ": by read and countRange, one after the other, some of them again. */
+    private static void readKeysAreASet() {
+        for (int key = 0; key < 32; key++) {
+            Log x = new Log("Terms: the keys that it has read are a set");
+            x.begin(0);
+            x.read(0, 31);
+            x.countRange(0, 10, 20);
+            x.read(0, 15);
+            x.read(0, 31);
+            x.countRange(0, 18, 22);
+            x.read(0, 0);
+            x.commitWrite(1, key, 1);
+            boolean read = key == 0 || key >= 10 && key <= 22 || key == 31;
+            x.commit(0).is(read ? MeldLog.CONFLICT : 2);
+        }
+    }
+
     /** "Its VIEW is its base with its own writes and erasures.": and nothing of what came after the base. */
     private static void viewIsTheBaseWithItsOwnChanges() {
         for (int after = 0; after <= 12; after++) {
@@ -289,7 +324,7 @@ public final class TermsTest {
         }
     }
 
-    /** "A key is CHANGED between two states": by s + 1 to t, in the same way for a commit as for changed. */
+    /** "A key is CHANGED between two states s < t": by s + 1 to t, in the same way for a commit as for changed. */
     private static void changedIsTheSameForConflictsAndCounts() {
         for (int made = 1; made <= 4; made++) {
             for (int base = 0; base <= 3; base++) {

@@ -23,6 +23,7 @@ final class Twins {
                 int key = each;
                 compare(sentence, one, other, (x, seen) -> lookAtRoomFor(x, seen, t, key));
                 compare(sentence, one, other, (x, seen) -> lookAtReadingOf(x, seen, t, key));
+                compare(sentence, one, other, (x, seen) -> lookAtChangeOf(x, seen, t, key));
             }
         }
     }
@@ -123,5 +124,12 @@ final class Twins {
             seen.add(x.at(latest, each));
         }
         seen.add(x.begin(t));
+    }
+
+    /** Has t read the key only now; whether it conflicts tells whether the key was changed since its base. */
+    private static void lookAtChangeOf(Log x, List<Log.Answer> seen, int t, int key) {
+        seen.add(x.read(t, key));
+        seen.add(x.commit(t));
+        latest(x, seen);
     }
 }

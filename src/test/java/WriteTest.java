@@ -35,7 +35,7 @@ public final class WriteTest {
         }
     }
 
-    /** A value is "any int". */
+    /** "Writes a key": the value is "any int". */
     private static void writesAnyValue() {
         Log x = new Log("P3 any int can be written");
         x.begin(0);
@@ -131,7 +131,7 @@ public final class WriteTest {
         x.size(1).is(6);
     }
 
-    /** The six keys are each transaction's own. */
+    /** "it has written or erased 6 other keys": that transaction, not all of them together. */
     private static void fullOneLeavesRoomInOthers() {
         Log x = new Log("P3 a full one leaves room in the others");
         x.beginAll();
